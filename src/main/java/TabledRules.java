@@ -124,6 +124,7 @@ public final class TabledRules {
         if (!isRelation(p) || !isGiven(g) || !isThing(x) || !isThing(y)) {
             return NONE;
         }
+        // A pair that is not in g needs no test: without it the trial comes out the same.
         copyGivenToTrial();
         trial[g] &= ~pairBit(x, y);
         derive(trial, present);
@@ -226,7 +227,7 @@ public final class TabledRules {
                 return join(q, r);
             case BOTH:
                 return q & r;
-            default:
+            default: // FROM, the one form that is left
                 return keepStarts(q, r);
         }
     }
