@@ -1,9 +1,30 @@
 /** Counts answers that are not as due, for the tests of the project. */
 final class Check {
+    private static int tests = 0;
     private static int right = 0;
     private static int wrong = 0;
 
     private Check() {
+    }
+
+    /** A test that looks at no answer, or that throws, counts as wrong: it shows nothing. */
+    static void test(String sentence, Runnable body) {
+        tests++;
+        int rightBefore = right;
+        int wrongBefore = wrong;
+        try {
+            body.run();
+        } catch (RuntimeException thrown) {
+            wrong++;
+            System.out.println("threw " + thrown);
+        }
+        if (right == rightBefore && wrong == wrongBefore) {
+            wrong++;
+            System.out.println("nothing was looked at");
+        }
+        if (wrong != wrongBefore) {
+            System.out.println("broken: " + sentence);
+        }
     }
 
     static void same(String what, Object got, Object want) {
@@ -27,7 +48,7 @@ final class Check {
     }
 
     static void finish() {
-        System.out.println(right + " answers as due, " + wrong + " not");
+        System.out.println(tests + " tests: " + right + " answers as due, " + wrong + " not");
         if (wrong != 0 || right == 0) {
             System.exit(1);
         }

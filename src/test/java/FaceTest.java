@@ -2,22 +2,20 @@ import java.lang.reflect.Constructor;
 import java.lang.reflect.Field;
 import java.lang.reflect.Method;
 import java.lang.reflect.Modifier;
-import java.util.HashMap;
 import java.util.HashSet;
-import java.util.Map;
 import java.util.Set;
 
 /** The public face of the document, and those rules of LANGUAGE.md that the compiled class shows. */
 public final class FaceTest {
     private static final Class<TabledRules> THE_CLASS = TabledRules.class;
 
-    public static void main(String[] args) throws ReflectiveOperationException {
-        classIsPlain();
-        constants();
-        constructor();
-        methods();
-        fieldsAreAllowed();
-        parametersAreFew();
+    public static void main(String[] args) {
+        Check.test("one public and final class", FaceTest::classIsPlain);
+        Check.test("NONE and FULL are all the constants to be seen", FaceTest::constants);
+        Check.test("one constructor", FaceTest::constructor);
+        Check.test("the methods of the document and no other to be seen", FaceTest::methods);
+        Check.test("fields are of the allowed types, and few", FaceTest::fieldsAreAllowed);
+        Check.test("at most seven parameters", FaceTest::parametersAreFew);
         Check.finish();
     }
 
@@ -30,16 +28,18 @@ public final class FaceTest {
         Check.same("nested classes", THE_CLASS.getDeclaredClasses().length, 0);
     }
 
-    private static void constants() throws ReflectiveOperationException {
-        Map<String, Integer> found = new HashMap<>();
+    private static void constants() {
+        Set<String> found = new HashSet<>();
         for (Field field : THE_CLASS.getDeclaredFields()) {
             if (!Modifier.isPrivate(field.getModifiers())) {
-                found.put(field.toString(), field.getInt(null));
+                found.add(field.toString());
             }
         }
-        Check.same("constants", found, Map.of(
-            "public static final int TabledRules.NONE", -1,
-            "public static final int TabledRules.FULL", -2));
+        Check.same("constants", found, Set.of(
+            "public static final int TabledRules.NONE",
+            "public static final int TabledRules.FULL"));
+        Check.same("NONE", TabledRules.NONE, -1);
+        Check.same("FULL", TabledRules.FULL, -2);
     }
 
     private static void constructor() {

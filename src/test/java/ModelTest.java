@@ -7,10 +7,14 @@ public final class ModelTest {
     private static long seed = 20261115L;
 
     public static void main(String[] args) {
+        Check.test("every answer is the model's", ModelTest::compareRuns);
+        Check.finish();
+    }
+
+    private static void compareRuns() {
         for (int run = 0; run < RUNS; run++) {
             compareRun(run);
         }
-        Check.finish();
     }
 
     private static int pick(int bound) {
