@@ -64,31 +64,39 @@ public final class OrderAndRefusalTest extends Scene {
         return t;
     }
 
+    /** Rules over given relations with few pairs: were a part of one overwritten, it would show. */
     private static TabledRules withEight() {
         TabledRules t = given(0, 1, 12, 30, 44);
-        giveAll(t, 1, 12, 20, 33);
+        giveAll(t, 1, 12, 20, 33, 41);
         t.rule(COPY, 2, qr(0, 1));
         t.rule(TURN, 3, qr(1, 0));
         t.rule(JOIN, 4, qr(0, 1));
-        t.rule(BOTH, 2, qr(3, 4));
-        t.rule(FROM, 3, qr(2, 1));
-        t.rule(JOIN, 4, qr(4, 2));
-        t.rule(COPY, 2, qr(2, 2));
-        t.rule(TURN, 4, qr(3, 3));
+        t.rule(BOTH, 2, qr(1, 0));
+        t.rule(FROM, 3, qr(0, 1));
+        t.rule(JOIN, 4, qr(1, 0));
+        t.rule(COPY, 3, qr(4, 2));
+        t.rule(TURN, 4, qr(0, 4));
         return t;
     }
 
-    /** Changes of every kind, so that also what no question shows at once comes out. Takes 285 calls. */
+    /**
+     * Changes of every kind, so that also what no question shows at once comes out. None of them is
+     * refused: what a refusal did to one object would be done to the other too, and be hidden.
+     * Takes at most 292 calls.
+     */
     private static String later(TabledRules t) {
         StringBuilder text = new StringBuilder(State.of(t));
-        text.append(" rule ").append(t.rule(JOIN, 4, qr(0, 1)));
-        text.append(State.of(t));
+        if (t.rules() != 255) {
+            text.append(" rule ").append(t.rule(JOIN, 4, qr(0, 1))).append(State.of(t));
+        }
         text.append(" give ").append(t.give(0, 2, 0, true)).append(t.give(1, 1, 2, false));
         text.append(State.of(t));
         for (int k = 0; k < 8; k++) {
-            text.append(" drop ").append(t.drop(k)).append(t.rules()).append(State.pairs(t, 2));
+            if ((t.rules() & 1 << k) != 0) {
+                text.append(" drop ").append(t.drop(k)).append(t.rules()).append(State.pairs(t, 2));
+            }
         }
-        for (int k = 0; k < 9; k++) {
+        for (int k = 0; k < 8; k++) {
             text.append(" rule ").append(t.rule(k % 5, 2 + k % 3, qr(k % 5, k % 2)));
         }
         return text.append(State.of(t)).toString();
